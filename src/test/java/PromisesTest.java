@@ -78,6 +78,8 @@ final class PromisesTest {
         same("new: day then", x.count(3), 2);
         same("new: seed", new MilkDays().seed(5), 1);
         same("NONE", NONE, -1);
+        same("new: far", new MilkDays().far(3, 4), NONE);
+        same("new: far of one", new MilkDays().far(11, 11), 0);
     }
 
     private static void p2and3() {
@@ -134,6 +136,9 @@ final class PromisesTest {
         Check.put(x, "day x");
         check.fails("suburb: wrong goes ahead of 12", NO_NUMBER, x::suburb);
         same("suburb: wrong, fault", x.fault(), 4);
+        MilkDays z = Check.suburb("step at 0 credit 0 kind 0 fresh 0 note 0;birds 0;frost 0;day 0;road 10 11 long 1;crates 0;charge 0");
+        same("suburb: a note for day 0", z.step(0, 7), 0);
+        same("suburb: a road of length 1", z.road(11, 10), 1);
         same("suburb: eight steps", Check.put(new MilkDays(), "step at 1 credit 1" + ";step at 1 credit 1".repeat(7)).suburb(), 1);
     }
 
@@ -148,6 +153,8 @@ final class PromisesTest {
         wrongSuburb("day 1 day 2", 6);
         wrongSuburb("day 1x", 5);
         wrongSuburb("days 1", 0);
+        wrongSuburb("stepz at 1", 0);
+        wrongSuburb("stepa at 1", 0);
         wrongSuburb("Day 1", 0);
         wrongSuburb("dayX 1", 3);
         wrongSuburb("day\t1", 3);
@@ -204,6 +211,7 @@ final class PromisesTest {
         same("law: 12 lines", Check.put(x, "sour 1" + ";sour 1".repeat(11)).law(), 12);
         same("law: sum of all lines", x.step(0, 11), 12);
         same("law: in place of the one ahead", x.step(0, 9), 0);
+        same("law: 0", Check.put(x, "sour 0").law(), 1);
         same("law: blanks", Check.put(x, "  ").law(), 0);
         same("law: no lines", x.step(0, 11), 0);
         same("law: more than 100", Check.put(x, "bird 100;bird 100").law() + x.step(0, 9), 202);
@@ -238,6 +246,10 @@ final class PromisesTest {
         same("week", sours(x, 1, "week>2 and week<4"), 7);
         same("noted that day", sours(x, 2, "noted"), 7);
         same("noted: no note", sours(x, 0, "noted"), 0);
+        same("not noted", sours(x, 2, "not noted"), 0);
+        same("not dog", sours(x, 2, "not dog or not not not dog"), 0);
+        for (int i = 0; i < 9; i++) sours(x, 0, "1" + "+1".repeat(180) + "<1");
+        same("the codes of laws ahead are gone", sours(x, 0, "1<2"), 7);
         same("dog", sours(x, 2, "dog"), 7);
         x.mornings(1);
         same("noted on another day", sours(x, 2, "noted"), 0);
@@ -249,6 +261,8 @@ final class PromisesTest {
 
     private static void p5wrong() {
         wrongLaw("bird", 4);
+        wrongLaw("5", 0);
+        wrongLaw("5 if dog", 0);
         wrongLaw("bird 101", 5);
         wrongLaw("bird 0001", 5);
         wrongLaw("birds 1", 0);
@@ -319,6 +333,9 @@ final class PromisesTest {
         same("share without credit", y.step(0, 12), 0);
         same("outer, of those not reached none", y.step(0, 13), 0);
         same("outer: not reached itself", y.step(1, 13), 0);
+        MilkDays z = Check.suburb("step at 1 credit 0;step at 0 credit 1;road 0 1 long 1");
+        same("outer: the first one is farther", z.step(1, 13), 1);
+        same("share: all of 1", z.step(1, 12), 100);
     }
 
     private static void p8to10() {
@@ -360,6 +377,14 @@ final class PromisesTest {
         check.fails("mornings: 61", NO_NUMBER, () -> x.mornings(61));
         same("mornings: 60", x.mornings(60), 60 * 3 + 8);
         same("mornings: nothing changed by none", x.count(13), 2);
+        int rows = x.count(12);
+        x.charge(0);
+        same("mornings: all passed over", x.mornings(1), 0);
+        same("mornings: passed over, no row", x.count(12), rows);
+        same("dry: one more", x.step(0, 6), 1);
+        x.charge(20);
+        x.mornings(1);
+        same("dry: 0 with a bottle", x.step(0, 6), 0);
         MilkDays y = line(";step at 3 credit 9;step at 1 credit 9;charge 13");
         same("as much as both are far is needed: 14", y.mornings(1), 1);
         same("the nearer one is reached", y.led(1, false), 1);
@@ -481,6 +506,7 @@ final class PromisesTest {
         same("change: the other", x.round(3), 0);
         check.fails("change: one", NO_NUMBER, () -> x.change(1, 1));
         check.fails("change: place", NO_SUCH, () -> x.change(4, 4));
+        check.fails("change: place below", NO_SUCH, () -> x.change(-1, 0));
         check.fails("change: other", NO_SUCH, () -> x.change(0, -1));
         same("charge: was", x.charge(200), 20);
         same("charge: is", x.charge(0), 200);
@@ -501,6 +527,7 @@ final class PromisesTest {
         check.fails("lend: the other has 9", CANNOT, () -> x.lend(0, 1));
         check.fails("lend: one", NO_NUMBER, () -> x.lend(2, 2));
         check.fails("lend: step", NO_SUCH, () -> x.lend(3, 3));
+        check.fails("lend: step alone", NO_SUCH, () -> x.lend(3, 0));
         check.fails("lend: other", NO_SUCH, () -> x.lend(0, -1));
         same("lend: the only one", x.lend(2, 0), 1);
         check.fails("lend: none", CANNOT, () -> x.lend(2, 0));
@@ -591,6 +618,21 @@ final class PromisesTest {
         Check.put(y, "step at 3 credit 0;step at 0 credit 0;step at 3 credit 0;step at 0 credit 0").suburb();
         same("way: more than 200", y.way(), 216);
         same("least: more than 200", y.least(), NONE);
+        MilkDays u = Check.suburb("road 0 1 long 9;road 1 2 long 9;road 0 3 long 7;step at 2 credit 0;step at 0 credit 0;step at 2 credit 0;"
+            + "step at 0 credit 0;step at 2 credit 0;step at 0 credit 0;step at 2 credit 0;step at 3 credit 0");
+        same("least: 158", u.least(), 158);
+        Check.put(u, "road 1 2 long 6;road 0 3 long 6;road 0 1 long 6").suburb();
+        same("least: 108, too", u.least(), 108);
+        Check.put(u, "road 1 2 long 9;road 0 1 long 9;road 0 3 long 1;road 2 3 long 9").suburb();
+        same("least: a way round", u.least(), u.way());
+        MilkDays v = Check.suburb("road 0 1 long 8;road 1 2 long 8;road 2 3 long 9;step at 3 credit 0;step at 0 credit 0;step at 3 credit 0;"
+            + "step at 0 credit 0;step at 3 credit 0;step at 0 credit 0;step at 3 credit 0");
+        same("least: all of 200", v.least(), 200);
+        Check.put(v, "road 2 3 long 8;road 0 4 long 4;step at 4 credit 0").suburb();
+        same("least: all of 200, by another", v.least(), 200);
+        Check.put(v, "road 0 4 long 5").suburb();
+        same("least: 202", v.least(), NONE);
+        same("dairy: one step", Check.suburb("step at 0 credit 0").dairy(), 0);
         MilkDays z = Check.suburb("step at 5 credit 0;step at 5 credit 0");
         same("dairy: away from all roads", z.dairy(), 5);
         MilkDays w = Check.suburb("road 0 1 long 9;road 1 2 long 9;step at 2 credit 0;step at 0 credit 0;step at 2 credit 0");
@@ -613,6 +655,7 @@ final class PromisesTest {
         same("cut: not reached now", x.cut(3), 16);
         Check.put(x, "road 2 9 long 1").suburb();
         same("bridges: a chain", x.bridges(), 2);
+        same("bridges: from the higher to the lower", Check.suburb("road 0 5 long 1;road 5 2 long 1;step at 2 credit 0").bridges(), 2);
     }
 
     private static void p29to32() {
@@ -647,6 +690,15 @@ final class PromisesTest {
         MilkDays z = Check.suburb("step at 0 credit 0;price 0");
         same("owes: price 0", z.owes(0), NONE);
         same("pays: price 0", z.pays(0, 60), 0);
+        MilkDays d = Check.suburb("step at 5 credit 0 fresh 9;step at 0 credit 0;price 3");
+        same("pays: first of all", d.pays(1, 9), 30);
+        same("pays: not reached", d.pays(0, 9), 3);
+        same("dries: the first step", d.dries(true) * 100 + d.dries(false), 10);
+        // Each week once the first takes both bottles: the ninth time the second has none of its eight left.
+        MilkDays h = Check.suburb("step at 0 credit 0 note 3;step at 0 credit 0 fresh 8;crates 2");
+        same("dries: 60", h.dries(false) * 10 + h.dries(true), 601);
+        h.note(0, 4);
+        same("dries: 61 is none", h.dries(false), NONE);
         MilkDays w = Check.suburb("step at 0 credit 120;price 2");
         same("owes: 60 days", w.owes(0), 60);
         w.pay(0, 1);
@@ -705,6 +757,9 @@ final class PromisesTest {
         check.fails("ask: neither", NO_NUMBER, x::ask);
         MilkDays u = Check.suburb("step at 1 credit 0;road 0 1 long 1");
         same("seen: charges 0 and 1", told(u, 0, 0).seen(false), 2);
+        same("ask: two fit, nothing parts them", told(u, 0, 0).ask(), 0);
+        MilkDays v = Check.suburb("road 0 1 long 1;step at 9 credit 0;step at 1 credit 0;crates 0");
+        same("seen: come to with none", told(v, 0, 0).seen(false), 201);
         same("seen: charge itself does not count", u.charge(0) + told(u, 0, 1).seen(false), 259);
         same("ask: fewer than two", told(Check.suburb("step at 0 credit 0"), 0, 0).ask(), NONE);
     }
@@ -728,6 +783,9 @@ final class PromisesTest {
         same("neighbours: not reached", z.neighbour(3), NONE);
         same("neighbours: no far", z.neighbours(true), 0);
         same("neighbours: one", z.neighbours(false), 1);
+        MilkDays w = Check.suburb("step at 9 credit 0;step at 1 credit 0;step at 2 credit 0;road 1 2 long 3");
+        same("neighbours: the first one alone", w.neighbours(false) * 10 + w.neighbour(2), 11);
+        same("neighbours: the first one has none", w.neighbour(0), NONE);
     }
 
     private static void p37() {
@@ -755,6 +813,7 @@ final class PromisesTest {
         same("rests: the other way round", x.rests(1, 0), 3);
         check.fails("rests: one", NO_NUMBER, () -> x.rests(1, 1));
         check.fails("rests: step", NO_SUCH, () -> x.rests(4, 4));
+        check.fails("rests: step alone", NO_SUCH, () -> x.rests(4, 0));
         check.fails("rests: other", NO_SUCH, () -> x.rests(0, 4));
         MilkDays y = Check.suburb("step at 5 credit 0 fresh 7;step at 5 credit 0 fresh 3;step at 5 credit 0");
         y.mornings(1);
@@ -765,6 +824,18 @@ final class PromisesTest {
         Check.put(y, "step at 5 credit 0 fresh 2;step at 5 credit 0 fresh 1").suburb();
         // Drinks 4 or keeps 0 and 3: drinks; the fifth drinks 2, keeps 0 and 3.
         same("rests: both drink", y.rests(3, 4), 1);
+        MilkDays k = Check.suburb("step at 5 credit 0 fresh 5;step at 5 credit 0 fresh 2;step at 5 credit 0 fresh 9");
+        k.mornings(1);
+        k.mornings(1);
+        Check.put(k, "step at 5 credit 0 fresh 9").suburb();
+        k.lend(3, 0);
+        k.lend(3, 0);
+        k.lend(3, 1);
+        // STEP 0: OLD 3, FRESH 2: drinks 7, keeps 6 or 9. STEP 1: FRESH 1: drinks 2, keeps 0 or 3.
+        same("rests: old once and twice", k.rests(0, 1), 8 + 1);
+        k.lend(3, 0);
+        // STEP 0 drinks 9, keeps 6 or 9; STEP 2, OLD 7: drinks 7, keeps 14: 9 less 7 is less than 9.
+        same("rests: old of the other", k.rests(0, 2), 8);
         // STEP 1 keeps 4 and 7, drinks 2; the fourth drinks 4 less 2, or keeps 3.
         same("rests: less by what the other has", y.rests(3, 1), 8);
     }
@@ -783,6 +854,9 @@ final class PromisesTest {
         same("way: to and fro", y.way(), 8);
         same("cross: three", y.cross(), 3);
         same("swap: of several the least", y.swap(), 3);
+        MilkDays z = Check.suburb("road 0 1 long 1;road 1 2 long 1;road 2 3 long 1;step at 2 credit 0;step at 1 credit 0;step at 3 credit 0;step at 2 credit 0");
+        // 2, 1, 3, 2 is 8; by 1, 2, 3, 2 it is 6, by no other change less than that.
+        same("swap: the first two", z.swap() * 100 + z.way(), 108);
     }
 
     private static void p41to45() {
@@ -851,6 +925,9 @@ final class PromisesTest {
         same("trial: 0", y.trial(0, false), 9);
         same("trial: dry", y.trial(8, true), 0);
         same("trial: dry then", y.trial(9, true), 1);
+        MilkDays p = Check.suburb("step at 0 credit 0 note 0;step at 5 credit 0;step at 5 credit 0");
+        same("trial: the float comes", p.trial(1, false), 1);
+        same("trial: two are dry", p.trial(1, true), 6);
         same("trial: nothing stays", y.seed(1) * 100 + y.count(3) * 10 + y.count(10), 109);
         check.fails("trial: 61", NO_NUMBER, () -> y.trial(61, true));
         check.fails("trial: below", NO_NUMBER, () -> y.trial(-1, false));
@@ -858,11 +935,11 @@ final class PromisesTest {
         MilkDays z = Check.suburb("step at 5 credit 0 fresh 9;frost 59");
         same("trial: from its seed", z.trial(1, false), 7);
         z.seed(2);
-        same("trial: from another one", z.trial(1, false), secondDraw(2) < 59 ? 7 : 8);
+        same("trial: from another one", z.trial(1, false), draw(2, 2) < 59 ? 7 : 8);
         int least = 9;
         int most = 0;
         for (int seed = 1; seed <= 6; seed++) {
-            int bottles = secondDraw(seed) < 59 ? 7 : 8;
+            int bottles = draw(seed, 2) < 59 ? 7 : 8;
             least = Math.min(least, bottles);
             most = Math.max(most, bottles);
         }
@@ -873,20 +950,34 @@ final class PromisesTest {
         same("span: nothing stays", z.seed(1), 2);
         check.fails("span: 61", NO_NUMBER, () -> z.span(61, true));
         check.fails("span: below", NO_NUMBER, () -> z.span(-1, true));
+        // The third and the fourth draw from SEED 1 to 6: 13 15, 39 14, 65 12, 91 11, 16 77, 42 76.
+        MilkDays six = Check.law(Check.suburb("step at 5 credit 0 fresh 9;step at 5 credit 0 fresh 9"),
+            "bird 40 if step>0;break 76 if step>0;break 100 if step>0 and old>0");
+        same("span: SEED 6 alone breaks none", six.span(1, false) * 100 + six.span(1, true), 1516);
+        for (int birds = 1; birds < 100; birds++) {
+            MilkDays f = Check.law(Check.suburb("step at 5 credit 0 fresh 9;birds " + birds), "break 100 if old>0");
+            int low = 8;
+            int high = 7;
+            for (int seed = 1; seed <= 6; seed++) {
+                low = Math.min(low, draw(seed, 1) < birds ? 7 : 8);
+                high = Math.max(high, draw(seed, 1) < birds ? 7 : 8);
+            }
+            same("span: birds " + birds, f.span(1, false) * 10 + f.span(1, true), low * 10 + high);
+        }
         for (int frost = 1; frost < 100; frost++) {
             MilkDays f = Check.suburb("step at 5 credit 0 fresh 9;frost " + frost);
             int low = 8;
             int high = 7;
             for (int seed = 1; seed <= 6; seed++) {
-                low = Math.min(low, secondDraw(seed) < frost ? 7 : 8);
-                high = Math.max(high, secondDraw(seed) < frost ? 7 : 8);
+                low = Math.min(low, draw(seed, 2) < frost ? 7 : 8);
+                high = Math.max(high, draw(seed, 2) < frost ? 7 : 8);
             }
             same("span: frost " + frost, f.span(1, false) * 10 + f.span(1, true), low * 10 + high);
         }
     }
 
-    private static int secondDraw(int seed) {
-        for (int i = 0; i < 2; i++) seed = (int) (seed * 1103515245L + 12345L);
+    private static int draw(int seed, int which) {
+        for (int i = 0; i < which; i++) seed = (int) (seed * 1103515245L + 12345L);
         return (int) ((seed & 0xffffffffL) / 65536 % 32768 % 100);
     }
 
@@ -919,6 +1010,15 @@ final class PromisesTest {
         same("log: the latest", x.log(0, 0) * 10 + x.log(0, 1), 620);
         same("led: of the latest 60", x.led(0, false), 58);
         same("log: none behind 60", x.log(60, 0), NONE);
+        x.crates(2);
+        x.mornings(40);
+        same("log: another latest", x.log(0, 1) * 1000 + x.log(0, 0), 1102);
+        x.undo();
+        same("log: undone", x.log(0, 1) * 1000 + x.log(0, 0), 62);
+        same("log: undone, the oldest", x.log(59, 0) * 10 + x.log(59, 1), 40);
+        MilkDays y = Check.suburb("step at 0 credit 0;day 6");
+        y.mornings(1);
+        same("led: the only row", y.led(0, true), 6);
     }
 
     private static void p53() {
