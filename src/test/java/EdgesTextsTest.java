@@ -319,6 +319,9 @@ final class EdgesTextsTest extends Edges {
         wrong("step at 1 credit 1 dogz", 19);
         wrong("Day 1", 0);
         wrong("daY 1", 0);
+        wrong("dayX 1", 3);
+        wrong("step at 1 credit 1 dogX", 22);
+        wrong("day 1x", 5);
         wrong("day\t1", 3);
         wrong("day\n1", 3);
         wrong("day" + (char) 160 + "1", 3);
