@@ -94,7 +94,7 @@ public final class MilkDays {
     public int suburb() throws IllegalArgumentException, UnsupportedOperationException {
         draft.copyFrom(now);
         tape.startText();
-        Texts.read(tape, draft, false);
+        Texts.readSuburb(tape, draft);
         tape.useUp();
         if (tape.fault != NONE) {
             throw new IllegalArgumentException("the text is wrong");
@@ -113,7 +113,7 @@ public final class MilkDays {
     public int law() throws IllegalArgumentException {
         draft.law.begin();
         tape.startText();
-        Texts.read(tape, draft, true);
+        Texts.readLaw(tape, draft.law);
         tape.useUp();
         if (tape.fault != NONE) {
             throw new IllegalArgumentException("the text is wrong");
@@ -847,6 +847,13 @@ public final class MilkDays {
             }
         }
 
+        /** With a LINE too many to come, or anything else, the text is wrong there. */
+        void needEnd(boolean lineTooMany) {
+            if (lineTooMany || !atEnd()) {
+                fail();
+            }
+        }
+
         boolean nextIs(String word) {
             boolean same = fault == NONE && to - at == word.length();
             for (int i = 0; i < word.length() && same; i++) {
@@ -896,20 +903,28 @@ public final class MilkDays {
      * of THE LAW so that each condition becomes codes in the order in which they are reckoned.
      */
     private static final class Texts {
-        static void read(Tape tape, Suburb draft, boolean law) {
-            int most = law ? LAW_LINES : SUBURB_LINES;
+        static void readSuburb(Tape tape, Suburb draft) {
             boolean more = !tape.atEnd();
-            for (int line = 0; line < most && more; line++) {
-                if (law) {
-                    readLawLine(tape, draft.law);
-                } else {
-                    readPlainLine(tape, draft);
-                }
+            for (int line = 0; line < SUBURB_LINES && more; line++) {
+                readPlainLine(tape, draft);
                 more = tape.word(";");
             }
-            if (more || !tape.atEnd()) {
-                tape.fail();
+            tape.needEnd(more);
+        }
+
+        static void readLaw(Tape tape, Law law) {
+            boolean more = !tape.atEnd();
+            for (int line = 0; line < LAW_LINES && more; line++) {
+                int sort = readSort(tape);
+                int amount = tape.number(0, 100, NONE);
+                law.beginLine(sort, amount);
+                if (tape.word("if")) {
+                    readAny(tape, law, 0);
+                }
+                law.endLine();
+                more = tape.word(";");
             }
+            tape.needEnd(more);
         }
 
         private static void readPlainLine(Tape tape, Suburb draft) {
@@ -962,22 +977,15 @@ public final class MilkDays {
             streets.setRoad(corner, other, tape.number(1, 9, NONE));
         }
 
-        private static void readLawLine(Tape tape, Law law) {
-            int sort = NONE;
+        private static int readSort(Tape tape) {
             if (tape.word("bird")) {
-                sort = PECKS;
-            } else if (tape.word("break")) {
-                sort = BREAKS;
-            } else if (tape.word("sour")) {
-                sort = SOURS;
-            } else {
-                tape.fail();
+                return PECKS;
             }
-            law.addLine(sort, tape.number(0, 100, NONE));
-            if (tape.word("if")) {
-                readAny(tape, law, 0);
+            if (tape.word("break")) {
+                return BREAKS;
             }
-            law.endLine();
+            tape.needWord("sour");
+            return SOURS;
         }
 
         private static void readAny(Tape tape, Law law, int depth) {
@@ -1086,7 +1094,7 @@ public final class MilkDays {
             size = 0;
         }
 
-        void addLine(int sort, int amount) {
+        void beginLine(int sort, int amount) {
             if (lines >= 0 && lines < LAW_LINES) {
                 sorts[lines] = sort;
                 amounts[lines] = amount;
