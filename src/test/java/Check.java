@@ -7,19 +7,15 @@ final class Check {
 
     static MilkDays put(MilkDays days, String text) {
         days.end(0);
-        byte[] bytes = new byte[(text.length() + 19) / 20 * 20];
+        int[] numbers = new int[(text.length() + 19) / 20 * 5];
         for (int i = 0; i < text.length(); i++) {
-            bytes[i] = (byte) text.charAt(i);
+            numbers[i / 4] |= text.charAt(i) << 24 - i % 4 * 8;
         }
-        for (int i = 0; i < bytes.length; i += 20) {
-            days.feed(word(bytes, i), word(bytes, i + 4), word(bytes, i + 8), word(bytes, i + 12), word(bytes, i + 16));
+        for (int i = 0; i < numbers.length; i += 5) {
+            days.feed(numbers[i], numbers[i + 1], numbers[i + 2], numbers[i + 3], numbers[i + 4]);
         }
         days.end(text.length());
         return days;
-    }
-
-    private static int word(byte[] bytes, int i) {
-        return (bytes[i] & 255) << 24 | (bytes[i + 1] & 255) << 16 | (bytes[i + 2] & 255) << 8 | bytes[i + 3] & 255;
     }
 
     static MilkDays suburb(String... texts) {
